@@ -108,22 +108,27 @@ public final class Promise3Test {
         Check.voices("the end", x, 8, -1, -1, -1);
     }
 
-    /** After any one voice is freed and taken again, the other three are stolen in their old order first. */
+    /**
+     * After any one voice is freed and taken again, the other three are stolen first, in their old
+     * order, whichever voice that order begins with.
+     */
     private static void startsOfTheOthersStay() {
-        for (int freed = 0; freed < 4; freed++) {
-            VoiceAlloc x = Check.started(7, 7, 7, 7);
-            for (int k = 0; k < freed; k++) {
-                x.noteOn(7);
-            }
-            Check.off(x, 7, 0);
-            Check.on(x, 8, 0);
-            for (int k = 0; k < 4; k++) {
-                int v = (freed + k) % 4;
-                if (v != 0) {
-                    Check.on(x, 9, v);
+        for (int first = 0; first < 4; first++) {
+            for (int freed = 0; freed < 4; freed++) {
+                VoiceAlloc x = Check.started(10, 11, 12, 13);
+                for (int v = 0; v < first; v++) {
+                    Check.on(x, 10 + v, v);
                 }
+                Check.off(x, 10 + freed, freed);
+                Check.on(x, 20, freed);
+                for (int k = 0; k < 4; k++) {
+                    int v = (first + k) % 4;
+                    if (v != freed) {
+                        Check.on(x, 30, v);
+                    }
+                }
+                Check.on(x, 40, freed);
             }
-            Check.on(x, 10, 0);
         }
     }
 }
