@@ -77,11 +77,12 @@ public final class VoiceAlloc {
         return NO_VOICE;
     }
 
-    // Asked only when every voice sounds: the start of a free voice is stale.
+    // Asked only when every voice sounds: the start of a free voice is stale. The sign of the
+    // difference, not <, tells the earlier start, so that the order lasts when the clock wraps.
     private int earliestStarted() {
         int earliest = 0;
         for (int v = 1; v < VOICES; v++) {
-            if (starts[v] < starts[earliest]) {
+            if (starts[v] - starts[earliest] < 0L) {
                 earliest = v;
             }
         }
