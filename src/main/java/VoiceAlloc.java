@@ -7,6 +7,8 @@ public final class VoiceAlloc {
     private static final int NO_VOICE = -1;
     private static final int INVALID = -2;
 
+    private static final long LOWEST_LONG = 1L << 63;
+
     private final int[] notes = new int[VOICES];
     private final long[] starts = new long[VOICES];
 
@@ -77,15 +79,20 @@ public final class VoiceAlloc {
         return NO_VOICE;
     }
 
-    // Asked only when every voice sounds: the start of a free voice is stale. The sign of the
-    // difference, not <, tells the earlier start, so that the order lasts when the clock wraps.
+    // Asked only when every voice sounds: the start of a free voice is stale.
     private int earliestStarted() {
         int earliest = 0;
         for (int v = 1; v < VOICES; v++) {
-            if (starts[v] - starts[earliest] < 0L) {
+            if (age(v) > age(earliest)) {
                 earliest = v;
             }
         }
         return earliest;
+    }
+
+    // An age, unlike a start, keeps its place in the order when the clock wraps. It is counted from
+    // the lowest long, because a count from 0 would turn negative for a voice held over 2^63 notes.
+    private long age(int v) {
+        return clock - starts[v] + LOWEST_LONG;
     }
 }

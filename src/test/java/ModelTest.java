@@ -53,8 +53,8 @@ public final class ModelTest {
     private static final int[] SMALL = {0, 1, 127, -1};
 
     public static void main(String[] args) {
-        everyShortRun(8);
-        longRuns(400, 500);
+        Check.sentence("every short run answers as the model", () -> everyShortRun(8));
+        Check.sentence("long runs answer as the model", () -> longRuns(400, 500));
         Check.end();
     }
 

@@ -19,7 +19,8 @@ public final class PublicFaceTest {
     private static void publicAndFinal() {
         same(Modifier.toString(VoiceAlloc.class.getModifiers()), "public final");
         same(String.valueOf(VoiceAlloc.class.getSuperclass()), "class java.lang.Object");
-        same(String.valueOf(VoiceAlloc.class.getInterfaces().length), "0");
+        same("with " + VoiceAlloc.class.getInterfaces().length + " interfaces", "with 0 interfaces");
+        same("with " + VoiceAlloc.class.getDeclaredClasses().length + " nested classes", "with 0 nested classes");
     }
 
     private static void oneConstructor() {
