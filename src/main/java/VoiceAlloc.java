@@ -12,7 +12,7 @@ public final class VoiceAlloc {
     private final int[] notes = new int[VOICES];
     private final long[] starts = new long[VOICES];
 
-    // A long, because an int would wrap after 2^31 notes and turn the order of starts round.
+    // A long, because with an int a voice held over 2^32 notes would lose its place in the order.
     private long clock = 0L;
 
     public VoiceAlloc() {
